@@ -868,7 +868,8 @@ public final class HuntHouse {
         private byte[] text = new byte[0];
         private int length = 0;
         private int sort = END;
-        private int value = 0;
+        /** Of a number what it is, of a sign its byte. */
+        int value = 0;
         int from = 0;
         int to = 0;
         int fault = 0;
@@ -876,7 +877,7 @@ public final class HuntHouse {
         /** How many there are of what the text may have only so many of. */
         int counted = 0;
         private final int[] ops = new int[MOST_OPS * OP];
-        private int size = 0;
+        int size = 0;
 
         void begin(byte[] bytes, int n) {
             text = bytes;
@@ -896,40 +897,32 @@ public final class HuntHouse {
             }
             from = at;
             if (at >= length) {
+                to = at;
                 sort = END;
-            } else if (isSmall(text[at])) {
-                readWord();
-            } else if (isDigit(text[at])) {
-                readNumber();
-            } else {
-                sort = SIGN;
+                return;
+            }
+            int kind = sortOf(text[at]);
+            if (kind == SIGN) {
                 value = text[at];
                 to = at + 1;
+                sort = SIGN;
+                return;
             }
-        }
-
-        private void readWord() {
-            int at = from;
-            while (at < length && isSmall(text[at])) {
-                at++;
-            }
-            to = at;
-            sort = to - from <= WORD_LETTERS ? WORD : NO_TOKEN;
-        }
-
-        private void readNumber() {
-            int at = from;
             value = 0;
-            while (at < length && isDigit(text[at])) {
+            while (at < length && sortOf(text[at]) == kind) {
                 value = value * 10 + text[at] - '0';
                 at++;
             }
             to = at;
-            sort = to - from <= NUMBER_DIGITS ? NUMBER : NO_TOKEN;
+            int most = kind == WORD ? WORD_LETTERS : NUMBER_DIGITS;
+            sort = to - from <= most ? kind : NO_TOKEN;
         }
 
-        private static boolean isDigit(int sign) {
-            return sign >= '0' && sign <= '9';
+        private static int sortOf(int sign) {
+            if (sign >= 'a' && sign <= 'z') {
+                return WORD;
+            }
+            return sign >= '0' && sign <= '9' ? NUMBER : SIGN;
         }
 
         boolean isWord() {
@@ -958,21 +951,6 @@ public final class HuntHouse {
                 return fail(FORM);
             }
             return value >= least && value <= most || fail(faultBeyond);
-        }
-
-        /** The number that stands here; the next token comes. */
-        int passNumber() {
-            int number = value;
-            next();
-            return number;
-        }
-
-        boolean passSign(char sign) {
-            if (!isSign(sign)) {
-                return fail(FORM);
-            }
-            next();
-            return true;
         }
 
         boolean isAtEnd() {
@@ -1010,10 +988,6 @@ public final class HuntHouse {
             if (at >= 0 && at + 1 < size) {
                 ops[at + 1] = a;
             }
-        }
-
-        void aimHere(int at) {
-            setFirst(at, size);
         }
 
         /** Jumps to one place are a chain, each naming the one before, until the place is known. */
@@ -1100,7 +1074,14 @@ public final class HuntHouse {
                 return in.fail(MANY);
             }
             in.next();
-            return readAny(in, riddles, nested + 1) && in.passSign(')');
+            if (!readAny(in, riddles, nested + 1)) {
+                return false;
+            }
+            if (!in.isSign(')')) {
+                return in.fail(FORM);
+            }
+            in.next();
+            return true;
         }
 
         private static boolean readFact(Tokens in, int riddles) {
@@ -1112,17 +1093,20 @@ public final class HuntHouse {
                 return false;
             }
             in.next();
-            int first = 0;
+            int round = 0;
             if (fact == ROUND) {
                 if (!in.isNumber(0, ROUNDS - 1, BEYOND)) {
                     return false;
                 }
-                first = in.passNumber();
+                round = in.value;
+                in.next();
             }
-            if (!isAmount(in, fact, riddles)) {
+            int most = fact == RIDDLE ? riddles - 1 : fact == MINUTE ? LAST_MINUTE : MOST_RIDDLES;
+            if (!in.isNumber(0, most, fact == RIDDLE ? UNKNOWN : BEYOND)) {
                 return false;
             }
-            in.emit(fact, in.passNumber(), first);
+            in.emit(fact, in.value, round);
+            in.next();
             return true;
         }
 
@@ -1137,13 +1121,6 @@ public final class HuntHouse {
                 return ROUND;
             }
             return in.isWord("minute") ? MINUTE : NONE;
-        }
-
-        private static boolean isAmount(Tokens in, int fact, int riddles) {
-            if (fact == RIDDLE) {
-                return in.isNumber(0, riddles - 1, UNKNOWN);
-            }
-            return in.isNumber(0, fact == MINUTE ? LAST_MINUTE : MOST_RIDDLES, BEYOND);
         }
 
         static boolean holds(Code rule, int solved, int minute, int[] rounds) {
@@ -1197,16 +1174,17 @@ public final class HuntHouse {
             return readEither(in, 0) && in.isAtEnd();
         }
 
+        /** A fork goes on right behind it by both ways, until it is aimed elsewhere. */
         private static boolean readEither(Tokens in, int nested) {
-            int fork = emitFork(in);
+            int fork = in.emit(FORK, in.size + OP, 0);
             if (!readRow(in, nested)) {
                 return false;
             }
             int jumps = NONE;
             for (int n = 0; n < TAPE && in.isSign('/'); n++) {
                 jumps = in.emit(JUMP, jumps, 0);
-                in.aimHere(fork);
-                fork = emitFork(in);
+                in.setFirst(fork, in.size);
+                fork = in.emit(FORK, in.size + OP, 0);
                 in.next();
                 if (!readRow(in, nested)) {
                     return false;
@@ -1214,13 +1192,6 @@ public final class HuntHouse {
             }
             in.aimChainHere(jumps);
             return true;
-        }
-
-        /** A fork both of whose ways go on right behind it, until it is aimed elsewhere. */
-        private static int emitFork(Tokens in) {
-            int fork = in.emit(FORK, 0, 0);
-            in.aimHere(fork);
-            return fork;
         }
 
         private static boolean readRow(Tokens in, int nested) {
@@ -1251,12 +1222,16 @@ public final class HuntHouse {
                 return in.fail(MANY);
             }
             in.next();
-            int fork = emitFork(in);
-            if (!readEither(in, nested + 1) || !in.passSign(')')) {
+            int fork = in.emit(FORK, in.size + OP, 0);
+            if (!readEither(in, nested + 1)) {
                 return false;
             }
+            if (!in.isSign(')')) {
+                return in.fail(FORM);
+            }
+            in.next();
             if (in.isSign('?')) {
-                in.aimHere(fork);
+                in.setFirst(fork, in.size);
                 in.next();
             }
             return true;
@@ -1297,8 +1272,12 @@ public final class HuntHouse {
                 in.emit(WORD, in.from, in.to);
                 in.next();
             }
+            if (!in.isSign(']')) {
+                return in.fail(FORM);
+            }
             in.setFirst(bag, words);
-            return in.passSign(']');
+            in.next();
+            return true;
         }
     }
 
@@ -1307,11 +1286,12 @@ public final class HuntHouse {
         private static final int BLOCKS = TAPE / 64 + 1;
         private static final int BAG_SETS = 16;
         private static final int BAG_AT = MOST_OPS + 1;
+        private static final int SETS = BAG_AT + BAG_SETS;
 
         private final byte[] letters = new byte[TAPE];
         private int size = 0;
         /** A set of places in the guess for each instruction: where one may be when it comes. */
-        private final long[] sets = new long[(BAG_AT + BAG_SETS) * BLOCKS];
+        private final long[] sets = new long[SETS * BLOCKS];
         private final int[] least = new int[WORD_LETTERS + 1];
 
         void hear(byte[] tape, int n) {
@@ -1412,7 +1392,7 @@ public final class HuntHouse {
             if (all < 0 || all >= BAG_SETS || (row + 1 + words) * OP > form.ops.length) {
                 return;
             }
-            Arrays.fill(sets, BAG_AT * BLOCKS, (BAG_AT + BAG_SETS) * BLOCKS, 0L);
+            Arrays.fill(sets, BAG_AT * BLOCKS, SETS * BLOCKS, 0L);
             join(row, BAG_AT);
             for (int stood = 0; stood < all; stood++) {
                 for (int w = 0; w < words; w++) {
@@ -1437,12 +1417,8 @@ public final class HuntHouse {
             }
         }
 
-        private boolean isSet(int row) {
-            return row >= 0 && row < BAG_AT + BAG_SETS;
-        }
-
         private boolean isEmpty(int row) {
-            for (int k = 0; k < BLOCKS && isSet(row); k++) {
+            for (int k = 0; k < BLOCKS && row >= 0 && row < SETS; k++) {
                 if (sets[row * BLOCKS + k] != 0L) {
                     return false;
                 }
@@ -1451,20 +1427,23 @@ public final class HuntHouse {
         }
 
         private boolean has(int row, int place) {
-            if (!isSet(row) || place < 0 || place > TAPE) {
+            if (row < 0 || row >= SETS || place < 0 || place > TAPE) {
                 return false;
             }
             return (sets[row * BLOCKS + (place >> 6)] >>> (place & 63) & 1L) == 1L;
         }
 
         private void put(int row, int place) {
-            if (isSet(row) && place >= 0 && place <= TAPE) {
+            if (row >= 0 && row < SETS && place >= 0 && place <= TAPE) {
                 sets[row * BLOCKS + (place >> 6)] |= 1L << (place & 63);
             }
         }
 
         private void join(int row, int into) {
-            for (int k = 0; k < BLOCKS && isSet(row) && isSet(into); k++) {
+            if (row < 0 || row >= SETS || into < 0 || into >= SETS) {
+                return;
+            }
+            for (int k = 0; k < BLOCKS; k++) {
                 sets[into * BLOCKS + k] |= sets[row * BLOCKS + k];
             }
         }
@@ -1519,7 +1498,8 @@ public final class HuntHouse {
             if (!isStepNumber(in, step, own)) {
                 return false;
             }
-            in.emit(step, in.passNumber(), 0);
+            in.emit(step, in.value, 0);
+            in.next();
             return true;
         }
 
@@ -1556,35 +1536,31 @@ public final class HuntHouse {
         }
 
         private static boolean readTake(Tokens in, int own) {
-            if (!readTaken(in, own)) {
-                return false;
-            }
-            for (int taken = 1; taken <= MOST_TAKEN && in.isSign(','); taken++) {
-                in.next();
-                if (taken == MOST_TAKEN) {
-                    // A place beyond its bounds is told first: of one place the least fault.
-                    return in.isNumber(1, WORD_LETTERS, BEYOND) && in.fail(MANY);
-                }
-                if (!readTaken(in, own)) {
+            boolean more = true;
+            for (int taken = 0; taken <= MOST_TAKEN && more; taken++) {
+                // A place beyond its bounds is told ahead of one too many: of one place the least fault.
+                if (!in.isNumber(1, WORD_LETTERS, BEYOND)) {
                     return false;
                 }
+                if (taken == MOST_TAKEN) {
+                    return in.fail(MANY);
+                }
+                int place = in.value;
+                in.next();
+                if (!in.isWord("of")) {
+                    return in.fail(FORM);
+                }
+                in.next();
+                if (!in.isNumber(0, own - 1, UNKNOWN)) {
+                    return false;
+                }
+                in.emit(TAKE, in.value, place);
+                in.next();
+                more = in.isSign(',');
+                if (more) {
+                    in.next();
+                }
             }
-            return true;
-        }
-
-        private static boolean readTaken(Tokens in, int own) {
-            if (!in.isNumber(1, WORD_LETTERS, BEYOND)) {
-                return false;
-            }
-            int place = in.passNumber();
-            if (!in.isWord("of")) {
-                return in.fail(FORM);
-            }
-            in.next();
-            if (!in.isNumber(0, own - 1, UNKNOWN)) {
-                return false;
-            }
-            in.emit(TAKE, in.passNumber(), place);
             return true;
         }
 
