@@ -7,6 +7,9 @@ public final class UndoTest {
         texts();
         hunt();
         hundred();
+        hundredInOrder();
+        hundredTexts();
+        waits();
         noActs();
         counts();
         trouble();
@@ -153,6 +156,50 @@ public final class UndoTest {
         CHECK.due("what was ahead of the hundred stays", house.count(3), 50);
     }
 
+    /** Acts told apart by their minutes, round the place where the oldest give way. */
+    private static void hundredInOrder() {
+        HuntHouse house = new HuntHouse();
+        int[] minutes = new int[261];
+        for (int k = 1; k <= 260; k++) {
+            minutes[k] = house.pass(1 + k % 9);
+        }
+        for (int k = 259; k >= 160; k--) {
+            CHECK.due("undo " + k, house.undo(), 1);
+            CHECK.due("minute " + k, house.count(3), minutes[k]);
+        }
+        CHECK.due("no more", house.undo(), 0);
+    }
+
+    /** Texts in every place of the hundred. */
+    private static void hundredTexts() {
+        Hand hand = new Hand();
+        hand.riddle(0, 0, "bird");
+        for (int k = 0; k < 210; k++) {
+            CHECK.due("form " + k, hand.form(0, "" + (char) ('a' + k % 26)), true);
+        }
+        for (int k = 208; k >= 110; k--) {
+            CHECK.due("undo " + k, hand.house.undo(), 1);
+            CHECK.due("the former form " + k, hand.takes(0, "" + (char) ('a' + k % 26)), 1);
+        }
+        CHECK.due("the last of a hundred", hand.house.undo(), 1);
+        CHECK.due("no more", hand.house.undo(), 0);
+    }
+
+    private static void waits() {
+        Hand hand = new Hand();
+        hand.riddle(0, 0, "bird");
+        hand.house.patience(0, 0, 3);
+        hand.house.team();
+        hand.house.pass(4);
+        hand.guess(0, 0, "x");
+        hand.house.pass(20);
+        hand.guess(0, 0, "x");
+        CHECK.due("waits to", hand.house.told(0, 0, 3), 27);
+        hand.house.undo();
+        CHECK.due("waited to before", hand.house.told(0, 0, 3), 7);
+        CHECK.due("wrong ones", hand.house.teamOf(0, 5), 1);
+    }
+
     private static void noActs() {
         Hand hand = new Hand();
         HuntHouse house = hand.house;
@@ -239,5 +286,56 @@ public final class UndoTest {
         CHECK.due("none such", house.trouble(), 1);
         house.states(0);
         CHECK.due("accepted", house.trouble(), 0);
+        acceptedBehindRefused();
+    }
+
+    /** Each call that may be refused and isn't, right behind one that was. */
+    private static void acceptedBehindRefused() {
+        Hand hand = new Hand();
+        hand.riddle(0, 0, "bird");
+        hand.riddle(2, 0, "bird");
+        hand.house.team();
+        hand.house.hint(0, 0, 0);
+        hand.working(1, "all 0");
+        for (int call = 0; call < 22; call++) {
+            hand.house.pass(0);
+            CHECK.due("refused", hand.house.trouble(), 2);
+            hand.feed("solved 1");
+            accepted(hand.house, call);
+            CHECK.due("call " + call + " accepted", hand.house.trouble(), 0);
+            hand.house.takes(0, 0);
+        }
+    }
+
+    private static void accepted(HuntHouse house, int call) {
+        switch (call) {
+            case 0 -> house.riddle(0, 0, 6);
+            case 1 -> house.rule(1, 8);
+            case 2 -> house.form(0, 6);
+            case 3 -> {
+                house.takes(0, 0);
+                house.pass(0);
+                house.feed(0x6261636b, 0x20202020, 0x20202020, 0x20202020, 0x20202020);
+                house.working(1, 4);
+            }
+            case 4 -> house.patience(0, 0, 0);
+            case 5 -> house.hint(0, 0, 0);
+            case 6 -> house.takes(0, 0);
+            case 7 -> house.steps(0, 0);
+            case 8 -> house.make(1);
+            case 9 -> house.fits(1);
+            case 10 -> house.without(1, 1);
+            case 11 -> house.follows(1, 1);
+            case 12 -> house.book(6);
+            case 13 -> house.team();
+            case 14 -> house.pass(1);
+            case 15 -> house.open(0, 0);
+            case 16 -> house.buy(0, 0);
+            case 17 -> house.guess(0, 0, 6);
+            case 18 -> house.states(0);
+            case 19 -> house.shut(0);
+            case 20 -> house.shortest(0);
+            default -> house.dead(0);
+        }
     }
 }
