@@ -232,27 +232,11 @@ public final class HuntHouse {
     // ---- guesses, workings
 
     public int takes(int riddle, int n) {
-        if (!isRiddle(riddle)) {
-            return refuse(NO_SUCH);
-        }
-        if (!isOnTape(n)) {
-            return refuse(BAD_NUMBER);
-        }
-        hear(n);
-        refusal = 0;
-        return heard.verdict(riddles[riddle]);
+        return hasHeard(riddle, n) ? heard.verdict(riddles[riddle]) : NONE;
     }
 
     public int steps(int riddle, int n) {
-        if (!isRiddle(riddle)) {
-            return refuse(NO_SUCH);
-        }
-        if (!isOnTape(n)) {
-            return refuse(BAD_NUMBER);
-        }
-        hear(n);
-        refusal = 0;
-        return heard.stepsTo(riddles[riddle]);
+        return hasHeard(riddle, n) ? heard.stepsTo(riddles[riddle]) : NONE;
     }
 
     public int make(int riddle) {
@@ -571,6 +555,20 @@ public final class HuntHouse {
     private void hear(int n) {
         heard.hear(tape, n);
         fed = 0;
+    }
+
+    private boolean hasHeard(int riddle, int n) {
+        if (!isRiddle(riddle)) {
+            refusal = NO_SUCH;
+            return false;
+        }
+        if (!isOnTape(n)) {
+            refusal = BAD_NUMBER;
+            return false;
+        }
+        hear(n);
+        refusal = 0;
+        return true;
     }
 
     private boolean isTextFor(int riddle, boolean isWorking, int n) {
