@@ -111,8 +111,8 @@ public final class HuntHouse {
         if (!known || !isOnTape(n)) {
             return refuse(BAD_NUMBER);
         }
-        fed = 0;
-        if (!isWord(n)) {
+        takeText(n);
+        if (!tokens.isOneWord()) {
             return refuse(BAD_NUMBER);
         }
         if (kind == LAST && lastRiddle() != NONE) {
@@ -122,7 +122,7 @@ public final class HuntHouse {
             return refuse(NO_ROOM);
         }
         int number = riddleCount;
-        riddles[number].begin(kind, round, tape, n);
+        riddles[number].begin(kind, round, tape, tokens.from, tokens.to);
         riddleCount++;
         rounds[round] |= 1 << number;
         accept(ACT_RIDDLE, number, 0, 0, 0);
@@ -284,14 +284,14 @@ public final class HuntHouse {
         if (!isOnTape(n)) {
             return refuse(BAD_NUMBER);
         }
-        fed = 0;
-        if (!isWord(n)) {
+        takeText(n);
+        if (!tokens.isOneWord()) {
             return refuse(BAD_NUMBER);
         }
         if (words.size >= MOST_WORDS) {
             return refuse(NO_ROOM);
         }
-        words.add(tape, n);
+        words.add(tape, tokens.from, tokens.to);
         accept(ACT_BOOK, 0, 0, 0, 0);
         return words.size;
     }
@@ -527,18 +527,6 @@ public final class HuntHouse {
         return n >= 0 && n <= fed && n <= TAPE;
     }
 
-    private boolean isWord(int n) {
-        if (n < 1 || n > WORD_LETTERS) {
-            return false;
-        }
-        for (int i = 0; i < n; i++) {
-            if (!isSmall(tape[i])) {
-                return false;
-            }
-        }
-        return true;
-    }
-
     private static boolean isSmall(int sign) {
         return sign >= 'a' && sign <= 'z';
     }
@@ -727,13 +715,14 @@ public final class HuntHouse {
         Code form = null;
         Code working = null;
 
-        /** The word is the first n bytes of a tape; the caller has looked that it is one. */
-        void begin(int newKind, int newRound, byte[] tape, int n) {
+        /** The word stands from one place of a tape to another; the caller has looked that it is one. */
+        void begin(int newKind, int newRound, byte[] tape, int from, int to) {
             kind = newKind;
             round = newRound;
-            letters = n;
-            for (int i = 0; i < n && i < WORD_LETTERS && i < tape.length; i++) {
-                answer[i] = tape[i];
+            letters = 0;
+            for (int i = from; i >= 0 && i < to && i < tape.length && letters < WORD_LETTERS; i++) {
+                answer[letters] = tape[i];
+                letters++;
             }
             slack = 0;
             lock = 0;
@@ -821,14 +810,16 @@ public final class HuntHouse {
         final int[] lengths = new int[MOST_WORDS];
         int size = 0;
 
-        void add(byte[] tape, int n) {
-            if (size < 0 || size >= MOST_WORDS || n < 0 || n > WORD_LETTERS || n > tape.length) {
+        void add(byte[] tape, int from, int to) {
+            if (size < 0 || size >= MOST_WORDS) {
                 return;
             }
-            for (int i = 0; i < n; i++) {
-                letters[size * WORD_LETTERS + i] = tape[i];
+            int length = 0;
+            for (int i = from; i >= 0 && i < to && i < tape.length && length < WORD_LETTERS; i++) {
+                letters[size * WORD_LETTERS + length] = tape[i];
+                length++;
             }
-            lengths[size] = n;
+            lengths[size] = length;
             size++;
         }
 
@@ -917,13 +908,23 @@ public final class HuntHouse {
         }
 
         private static int sortOf(int sign) {
-            if (sign >= 'a' && sign <= 'z') {
+            if (isSmall(sign)) {
                 return WORD;
             }
             return sign >= '0' && sign <= '9' ? NUMBER : SIGN;
         }
 
         boolean isWord() {
+            return sort == WORD;
+        }
+
+        /** Whether a word stands here and nothing but blanks behind it. */
+        boolean isOneWord() {
+            for (int at = to; at < length; at++) {
+                if (text[at] != ' ') {
+                    return false;
+                }
+            }
             return sort == WORD;
         }
 

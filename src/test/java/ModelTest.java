@@ -108,7 +108,7 @@ public final class ModelTest {
     }
 
     private void riddle() {
-        String word = rarely() ? texts.broken(texts.word()) : texts.word();
+        String word = texts.wordText();
         int kind = rarely() ? below(6) - 1 : below(12) == 0 ? 2 : below(2);
         int round = rarely() ? below(9) - 1 : below(6);
         int n = feed(word);
@@ -192,7 +192,7 @@ public final class ModelTest {
     }
 
     private void book() {
-        String word = rarely() ? texts.broken(texts.word()) : texts.word();
+        String word = texts.wordText();
         int n = feed(word);
         due("book '" + word + "'", house.book(n), model.book(n));
     }
@@ -283,6 +283,12 @@ public final class ModelTest {
                 word[i] = (char) ('a' + below(below(5) == 0 ? 26 : 3));
             }
             return new String(word);
+        }
+
+        /** A word as a call is handed it: mostly bare, else with blanks round it, seldom broken. */
+        String wordText() {
+            String word = below(25) == 0 ? broken(word()) : word();
+            return below(4) > 0 ? word : " ".repeat(below(3)) + word + " ".repeat(below(below(5) == 0 ? 40 : 3));
         }
 
         String text(char which, int riddles, int own) {

@@ -8,6 +8,8 @@ public final class RiddlesTest {
         bytesOfTape();
         riddles();
         wordsOfRiddles();
+        blanksRoundWords();
+        bytesBehindWords();
         roomForRiddles();
         patience();
         hints();
@@ -80,7 +82,8 @@ public final class RiddlesTest {
     }
 
     private static void wordsOfRiddles() {
-        String[] none = {"", "Bird", "bi rd", " bird", "bird ", "bird1", "thirteensigns", "b?", "\u00e1", "`", "{"};
+        String[] none = {"", "Bird", "bi rd", " bi rd ", " ", "                    ", "bird1", "bird 1", "1 bird",
+            "bird ?", "bird B", "thirteensigns", " thirteensigns ", "bird\0", "bird\t", "bird\u00a0", "b?", "\u00e1", "`", "{"};
         for (String text : none) {
             Hand hand = new Hand();
             CHECK.due("no word '" + text + "'", hand.riddle(0, 0, text), -1);
@@ -95,6 +98,34 @@ public final class RiddlesTest {
             CHECK.due("its letters", hand.house.about(0, 2), text.length());
             CHECK.due("its answer", hand.takes(0, text), 1);
         }
+    }
+
+    private static void blanksRoundWords() {
+        String[] words = {"bird ", " bird", "  bird   ", "   twelveletter", "twelveletter                ",
+            "a" + " ".repeat(299), " ".repeat(299) + "z", " ".repeat(14) + "splitbyfeeds" + " ".repeat(100)};
+        for (String text : words) {
+            Hand hand = new Hand();
+            String word = text.replace(" ", "");
+            CHECK.due("word '" + text + "'", hand.riddle(0, 0, text), 0);
+            CHECK.due("accepted", hand.house.trouble(), 0);
+            CHECK.due("its tape", hand.house.count(5), 0);
+            CHECK.due("its letters", hand.house.about(0, 2), word.length());
+            CHECK.due("its answer", hand.takes(0, word), 1);
+            CHECK.due("steps to it", hand.steps(0, ""), word.length());
+        }
+    }
+
+    /** What stands on THE TAPE behind the first n bytes is of no matter. */
+    private static void bytesBehindWords() {
+        Hand hand = new Hand();
+        hand.feed("bird tree");
+        CHECK.due("a blank, and more beyond n", hand.house.riddle(0, 0, 5), 0);
+        CHECK.due("its letters", hand.house.about(0, 2), 4);
+        hand.feed("bird tree");
+        CHECK.due("two words", hand.house.riddle(0, 0, 6), -1);
+        hand.feed("thirteensigns");
+        CHECK.due("the first twelve letters", hand.house.riddle(0, 0, 12), 1);
+        CHECK.due("their answer", hand.takes(1, "thirteensign"), 1);
     }
 
     private static void roomForRiddles() {

@@ -12,6 +12,8 @@ public final class WorkingsTest {
         follows();
         out();
         book();
+        blanksRoundWords();
+        noFaultOfWords();
         refusals();
         CHECK.end();
     }
@@ -217,7 +219,7 @@ public final class WorkingsTest {
         CHECK.due("no word ahead of no room", hand.book("A"), -1);
         CHECK.due("its trouble", hand.house.trouble(), 2);
         CHECK.due("words", hand.house.count(2), 40);
-        String[] none = {"", "thirteensigns", "Ab", "a b", " a", "a "};
+        String[] none = {"", " ", "thirteensigns", " thirteensigns", "Ab", "a b", " a b ", "a 1", "a ?", "a\0"};
         for (String text : none) {
             Hand other = new Hand();
             CHECK.due("no word '" + text + "'", other.book(text), -1);
@@ -234,6 +236,39 @@ public final class WorkingsTest {
             CHECK.due("tape stays", third.house.count(5), 20);
         }
         CHECK.due("accepted", third.house.book(4) * 10 + third.house.trouble(), 10);
+    }
+
+    /** Also what is read behind a word may not hang on where on THE TAPE it stood. */
+    private static void blanksRoundWords() {
+        Hand hand = hand();
+        hand.working(5, "all 0");
+        String[] words = {"bird ", " bird", "   bird                        ", "bird" + " ".repeat(296)};
+        for (int w = 0; w < words.length; w++) {
+            CHECK.due("word '" + words[w] + "'", hand.book(words[w]), w + 1);
+            CHECK.due("accepted", hand.house.trouble(), 0);
+            CHECK.due("its tape", hand.house.count(5), 0);
+            CHECK.due("it is that word", hand.house.follows(5, 0), w + 1);
+        }
+        hand.book("   bard ");
+        CHECK.due("another of its length", hand.house.follows(5, 1), words.length + 1);
+        hand.house.undo();
+        hand.house.undo();
+        CHECK.due("taken back", hand.house.follows(5, 1), words.length - 1);
+        CHECK.due("words", hand.house.count(2), words.length - 1);
+    }
+
+    /** A word is read as texts are, but its want is no FAULT. */
+    private static void noFaultOfWords() {
+        Hand hand = hand();
+        hand.working(5, "all 9");
+        CHECK.due("where", hand.house.where(), 4);
+        hand.book("no word");
+        CHECK.due("fault behind book", hand.house.fault(), 2);
+        CHECK.due("where behind book", hand.house.where(), -1);
+        hand.working(5, "all 9");
+        hand.riddle(0, 0, " word ");
+        CHECK.due("fault behind riddle", hand.house.fault(), 2);
+        CHECK.due("where behind riddle", hand.house.where(), -1);
     }
 
     private static void refusals() {

@@ -131,11 +131,15 @@ final class Model {
         return team >= 0 && team < now.starts.size();
     }
 
+    private static String withoutBlanksRound(String word) {
+        return word.replaceAll("^ +| +$", "");
+    }
+
     int riddle(int kind, int round, int n) {
         if (!onTape(n) || kind < 0 || kind > 2 || round < 0 || round > 5) {
             return no(2);
         }
-        String word = take(n);
+        String word = withoutBlanksRound(take(n));
         if (!word.matches("[a-z]{1,12}")) {
             return no(2);
         }
@@ -379,7 +383,7 @@ final class Model {
         if (!onTape(n)) {
             return no(2);
         }
-        String word = take(n);
+        String word = withoutBlanksRound(take(n));
         if (!word.matches("[a-z]{1,12}")) {
             return no(2);
         }
