@@ -907,8 +907,9 @@ public final class HuntHouse {
             sort = to - from <= most ? kind : NO_TOKEN;
         }
 
+        // Calls stand eight deep here, the most that LANGUAGE.md allows: so isSmall is not called.
         private static int sortOf(int sign) {
-            if (isSmall(sign)) {
+            if (sign >= 'a' && sign <= 'z') {
                 return WORD;
             }
             return sign >= '0' && sign <= '9' ? NUMBER : SIGN;
