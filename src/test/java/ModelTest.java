@@ -5,11 +5,14 @@ import java.util.Random;
 /** All promises: runs of calls drawn by chance (the same every time) on the class and on the model. */
 public final class ModelTest {
     private static final Check CHECK = new Check("ModelTest");
-    private static final int RUNS = 400;
-    private static final int CALLS = 250;
+    private static final int RUNS = 3000;
+    // An object is used for at most 512 calls; a step and the last looks make 130 at most.
+    private static final int CALLS = 512;
+    private static final int LEFT_FOR_LAST = 130;
 
     private final Random chance;
     private final int run;
+    private int calls = 0;
     private final HuntHouse house = new HuntHouse();
     private final Model model = new Model();
     private final Texts texts;
@@ -32,13 +35,19 @@ public final class ModelTest {
         for (int r = 0; r < riddles; r++) {
             riddle();
         }
-        for (int call = 0; call < CALLS && !CHECK.isWrong(); call++) {
+        while (calls < CALLS - LEFT_FOR_LAST && !CHECK.isWrong()) {
             step();
-            look();
+            for (int looks = below(2 + run % 5); looks > 0; looks--) {
+                look();
+            }
         }
+        lookAtAll();
+        CHECK.due("calls of run " + run + ": " + calls, calls <= CALLS, true);
     }
 
+    /** Each of these is one call of the class. */
     private void due(String call, long got, long want) {
+        calls++;
         CHECK.due("run " + run + ": " + call, got, want);
     }
 
@@ -178,7 +187,8 @@ public final class ModelTest {
         due("fits " + riddle, house.fits(riddle), model.made(riddle, 0, 2));
         due("without " + riddle, house.without(riddle, unknown), model.made(riddle, unknown, 0));
         due("follows " + riddle, house.follows(riddle, unknown), model.made(riddle, unknown, 1));
-        for (int i = -1; i <= 24; i++) {
+        for (int looks = below(4); looks > 0; looks--) {
+            int i = below(rarely() ? 27 : model.out.length() + 2) - 1;
             due("out " + i, outOf(i), model.out(i));
         }
     }
@@ -234,34 +244,62 @@ public final class ModelTest {
     }
 
     private void undo() {
-        int times = rarely() ? below(120) : 1 + below(3);
-        for (int k = 0; k < times; k++) {
+        int times = rarely() ? below(110) : 1 + below(3);
+        for (int k = 0; k < times && calls < CALLS - LEFT_FOR_LAST; k++) {
             due("undo", house.undo(), model.undo());
         }
     }
 
     private void rank() {
         int minute = rarely() ? below(100) - 50 : below(model.now.minute + 1);
-        for (int i = -1; i <= 8; i++) {
+        int last = rarely() ? 8 : model.now.starts.size();
+        for (int i = rarely() ? -1 : 0; i <= last; i++) {
             due("rank " + i + " at " + minute, house.rank(i, minute), model.rank(i, minute));
         }
     }
 
-    /** What may be looked at behind every call. */
+    /** One of those things that may be looked at behind every call. */
     private void look() {
+        switch (below(12)) {
+            case 0, 1, 2 -> due("trouble", house.trouble(), model.trouble);
+            case 3 -> due("fault", house.fault(), model.fault);
+            case 4 -> due("where", house.where(), model.where());
+            case 5, 6 -> count(below(9) - 1);
+            case 7, 8 -> about(anyRiddle(), below(11) - 1);
+            case 9, 10 -> teamOf(anyTeam(), below(9) - 1);
+            default -> told(anyTeam(), anyRiddle(), below(6) - 1);
+        }
+    }
+
+    private void count(int what) {
+        due("count " + what, house.count(what), model.count(what));
+    }
+
+    private void about(int riddle, int what) {
+        due("about " + riddle + " " + what, house.about(riddle, what), model.about(riddle, what));
+    }
+
+    private void teamOf(int team, int what) {
+        due("teamOf " + team + " " + what, house.teamOf(team, what), model.teamOf(team, what));
+    }
+
+    private void told(int team, int riddle, int what) {
+        due("told " + team + " " + riddle + " " + what, house.told(team, riddle, what), model.told(team, riddle, what));
+    }
+
+    private void lookAtAll() {
         due("trouble", house.trouble(), model.trouble);
         due("fault", house.fault(), model.fault);
         due("where", house.where(), model.where());
         for (int what = -1; what <= 7; what++) {
-            due("count " + what, house.count(what), model.count(what));
+            count(what);
         }
         int riddle = anyRiddle();
         int team = anyTeam();
         for (int what = -1; what <= 9; what++) {
-            due("about " + riddle + " " + what, house.about(riddle, what), model.about(riddle, what));
-            due("teamOf " + team + " " + what, house.teamOf(team, what), model.teamOf(team, what));
-            due("told " + team + " " + riddle + " " + what, house.told(team, riddle, what),
-                model.told(team, riddle, what));
+            about(riddle, what);
+            teamOf(team, what);
+            told(team, riddle, what);
         }
     }
 

@@ -42,7 +42,7 @@ public final class RoomTest {
         }
         house.feed(0x61616161, 0x3f202020, 0, 0, 0);
         house.form(0, 5);
-        for (int call = 22; call + 6 < 512; call += 6) {
+        for (int call = 20; call + 6 <= 512; call += 6) {
             house.states(0);
             house.shut(0);
             house.shortest(0);

@@ -22,6 +22,29 @@ final class Check {
         due(what, got ? 1 : 0, want ? 1 : 0);
     }
 
+    /** The sentence that the test around looks at; it must stand so in the document. */
+    void sentence(String heading, String words) {
+        due("the document says under " + heading + " '" + words + "'", Document.says(heading, words), true);
+    }
+
+    /** A call that answers NONE, and the TROUBLE behind it. */
+    void refused(String what, HuntHouse house, long got, int why) {
+        due(what, got, HuntHouse.NONE);
+        due(what + ": trouble", house.trouble(), why);
+    }
+
+    /** A call that answers false, and the TROUBLE behind it. */
+    void refused(String what, HuntHouse house, boolean got, int why) {
+        due(what, got, false);
+        due(what + ": trouble", house.trouble(), why);
+    }
+
+    /** A call that is accepted, and its answer. */
+    void accepted(String what, HuntHouse house, long got, long want) {
+        due(what, got, want);
+        due(what + ": trouble", house.trouble(), 0);
+    }
+
     boolean isWrong() {
         return wrong > 0;
     }
